@@ -1,0 +1,36 @@
+/** Counts the answers that are not as due, and tells each of them. */
+public final class Check {
+    private final String name;
+    private int checks = 0;
+    private int wrong = 0;
+
+    public Check(String name) {
+        this.name = name;
+    }
+
+    public void due(String call, long got, long want) {
+        checks++;
+        if (got != want) {
+            wrong++;
+            if (wrong <= 40) {
+                System.out.println(name + ": " + call + " answered " + got + ", due is " + want);
+            }
+        }
+    }
+
+    public void yes(String what, boolean holds) {
+        due(what, holds ? 1 : 0, 1);
+    }
+
+    public boolean anyWrong() {
+        return wrong > 0;
+    }
+
+    /** Ends the program with exit code 1 if one answer was not as due. */
+    public void end() {
+        System.out.println(name + ": " + checks + " answers, " + wrong + " not as due");
+        if (wrong > 0 || checks == 0) {
+            System.exit(1);
+        }
+    }
+}
