@@ -121,11 +121,9 @@ public final class LabelHall {
     }
 
     public int less(int thing, int other) {
-        if (!isStanding(thing) || !isStanding(other)) {
-            return BAD;
-        }
-        if (!now.inOneRow(thing, other)) {
-            return NO;
+        int fault = faultOfPair(thing, other);
+        if (fault != 0) {
+            return fault;
         }
         if (thing == other) {
             return 0;
@@ -174,11 +172,9 @@ public final class LabelHall {
     }
 
     public int between(int thing, int other) {
-        if (!isStanding(thing) || !isStanding(other)) {
-            return BAD;
-        }
-        if (!now.inOneRow(thing, other)) {
-            return NO;
+        int fault = faultOfPair(thing, other);
+        if (fault != 0) {
+            return fault;
         }
         if (thing == other) {
             return 0;
@@ -194,11 +190,9 @@ public final class LabelHall {
     }
 
     public int meet(int thing, int other) {
-        if (!isStanding(thing) || !isStanding(other)) {
-            return BAD;
-        }
-        if (!now.inOneRow(thing, other)) {
-            return NO;
+        int fault = faultOfPair(thing, other);
+        if (fault != 0) {
+            return fault;
         }
         if (thing == other || now.encloses(thing, other)) {
             return thing;
@@ -330,6 +324,14 @@ public final class LabelHall {
         return thing >= 0 && thing < thingCount && now.order.rowOfThing(thing) != NONE;
     }
 
+    /** Why two things can't be set side by side, BAD or NO; 0 if they can. */
+    private int faultOfPair(int thing, int other) {
+        if (!isStanding(thing) || !isStanding(other)) {
+            return BAD;
+        }
+        return now.inOneRow(thing, other) ? 0 : NO;
+    }
+
     private boolean hasStand(int thing, boolean end) {
         return isStanding(thing) && (!end || now.isNested(thing));
     }
@@ -363,7 +365,7 @@ public final class LabelHall {
         return thingCount - 1;
     }
 
-    /** Takes what stands at the places from .. until - 1 of a row and brings it behind a stand of another. */
+    /** Takes what stands at the places from .. until - 1 of a row, and brings it behind a stand of row to. */
     private int carry(int row, int from, int until, int to, int behind) {
         beginChange();
         int taken = now.takeOut(row, from, until, passage);
@@ -409,7 +411,10 @@ public final class LabelHall {
         now = earlier;
     }
 
-    /** What stands in which row, in order. All rows lie in one line, so that eight rows need no more room than one. */
+    /**
+     * What stands in which row, in order. All rows lie in one line, so that eight rows need no more
+     * room than one.
+     */
     private static final class Order {
         final int[] line = new int[STANDS];
         /** The place in the line where each row begins; the last entry is where the last row ends. */
@@ -696,16 +701,13 @@ public final class LabelHall {
             return behind != NONE && encloses(thing, behind) ? behind : NONE;
         }
 
+        /** The next thing, step 1 or -1: ENDs are passed over. */
         int neighbour(int thing, int step) {
             int row = order.rowOfThing(thing);
-            int p = firstPlace(thing);
-            for (int n = order.length(row); n > 0; n--) {
-                p += step;
-                if (p < order.first(row) || p >= order.end(row)) {
-                    return NONE;
-                }
-                if (!isEnd(order.standAt(p))) {
-                    return thingOf(order.standAt(p));
+            for (int p = firstPlace(thing) + step; p >= order.first(row) && p < order.end(row); p += step) {
+                int stand = order.standAt(p);
+                if (!isEnd(stand)) {
+                    return thingOf(stand);
                 }
             }
             return NONE;

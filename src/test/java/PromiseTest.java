@@ -298,6 +298,29 @@ public final class PromiseTest {
         due("depth", y.depth(2), 2);
     }
 
+    private static void promise6JoinAmongOtherRows() {
+        LabelHall x = new LabelHall();
+        for (int r = 0; r < 8; r++) {
+            x.row(r, BLOCKED, 10);
+            for (int i = 0; i < 10; i++) {
+                x.put(r, i == 0 ? NONE : 10 * r + i - 1, false);
+            }
+        }
+        due("from behind", x.join(6, 2), 10);
+        order("from behind", x, 2, 20, 21, 22, 23, 24, 25, 26, 27, 28, 29, 60, 61, 62, 63, 64, 65, 66, 67, 68, 69);
+        due("from ahead", x.join(0, 7), 10);
+        order("from ahead", x, 7, 70, 71, 72, 73, 74, 75, 76, 77, 78, 79, 0, 1, 2, 3, 4, 5, 6, 7, 8, 9);
+        order("emptied", x, 6);
+        order("emptied", x, 0);
+        for (int r = 1; r < 6; r++) {
+            for (int i = 0; i < 10; i++) {
+                due("the others stand", x.at(r, i), 10 * r + i);
+                due("the others stand", x.rowOf(10 * r + i), r);
+            }
+        }
+        due("all are there", x.count(0), 80);
+    }
+
     private static void promise7Split() {
         LabelHall x = line(SPREAD, 10, 5);
         x.row(1, SPREAD, 4);
@@ -510,17 +533,30 @@ public final class PromiseTest {
         x.drop(1);
         due("gone", x.depth(2), BAD);
         due("not nested", line(BLOCKED, 10, 3).depth(2), 0);
-        LabelHall y = line(NESTED, 40, 250);
-        due("deep", y.depth(249), 249);
-        due("the innermost", y.near(249, 2), 248);
-        due("the outermost", y.meet(0, 249), 0);
+        LabelHall y = line(NESTED, 40, 300);
+        due("deep", y.depth(299), 299);
+        due("the innermost", y.near(299, 2), 298);
+        due("the outermost", y.meet(0, 299), 0);
+        due("full", y.put(0, NONE, false), FULL);
+        y.row(7, NESTED, 20);
+        due("all go to another row", y.join(0, 7), 300);
+        due("deep", y.depth(299), 299);
+        due("the last of them moves", y.move(299, NONE, false), 1);
+        due("out of all", y.depth(299), 0);
+        due("all of the rest moves", y.move(0, 299, false), 299);
+        due("within it", y.depth(298), 299);
+        due("all go", y.drop(299), 300);
+        due("undo", y.undo(), 7);
+        due("are there again", y.count(0), 300);
     }
 
     private static void promise18RowOf() {
         LabelHall x = line(TIGHT, 10, 2);
         x.row(5, TIGHT, 10);
         due("rowOf", x.rowOf(1), 0);
+        due("rowOf", x.rowOf(0), 0);
         x.split(0, 5);
+        due("stays", x.rowOf(0), 0);
         due("came to 5", x.rowOf(1), 5);
         x.drop(1);
         due("gone", x.rowOf(1), NONE);
@@ -600,6 +636,12 @@ public final class PromiseTest {
         due("the row goes", x.undo(), 0);
         due("no row", x.about(0, 0), BAD);
         due("none", x.undo(), NO);
+        x.row(0, TIGHT, 4);
+        x.put(0, NONE, false);
+        x.row(1, TIGHT, 4);
+        due("the row goes", x.undo(), 2);
+        due("the thing stays", x.about(0, 2), 1);
+        due("no row", x.about(1, 2), BAD);
         LabelHall y = line(TIGHT, 4, 12);
         y.put(0, NONE, false);
         y.put(99, NONE, false);
@@ -817,6 +859,37 @@ public final class PromiseTest {
         due("in another block there is room", x.put(0, 0, false), n);
     }
 
+    /** Two rows with the same labels have nothing to do with one another. */
+    private static void termsRowsApart() {
+        LabelHall x = hallWith(BLOCKED, 8);
+        x.row(1, BLOCKED, 8);
+        x.put(0, NONE, false);
+        x.put(1, NONE, false);
+        due("the same label", x.label(0, false), 127);
+        due("the same label", x.label(1, false), 127);
+        x.put(1, NONE, false);
+        due("between -1 and 128", x.inner(2, false), 63);
+        x.put(0, 0, false);
+        due("between 128 and 256", x.inner(3, false), 192);
+        x.mark(0, 1, 2, 0);
+        x.mark(1, 1, 1, 0);
+        x.drop(2);
+        due("at the beginning of row 1", x.marked(0), NONE);
+        x.drop(1);
+        due("at the beginning of row 1", x.marked(1), NONE);
+        due("a new block", x.put(1, NONE, false), 4);
+        due("its label", x.label(4, false), 127);
+        due("its inner one", x.inner(4, false), 128);
+        for (int i = 5; i < 13; i++) {
+            x.put(1, NONE, false);
+        }
+        // 128, 63, 31, 15, 7, 3, 1, 0: the ninth deals 8 anew, and the parting 9.
+        due("renamed", x.count(2), 17);
+        due("row 0 has its block", x.about(0, 3), 1);
+        due("row 1 is parted", x.about(1, 3), 2);
+        due("row 0 keeps its labels", x.inner(3, false), 192);
+    }
+
     private static void termsNested() {
         LabelHall x = hallWith(NESTED, 4);
         for (int i = 0; i < 4; i++) {
@@ -958,6 +1031,7 @@ public final class PromiseTest {
         promise5MoveFull();
         promise6Join();
         promise6JoinFull();
+        promise6JoinAmongOtherRows();
         promise7Split();
         promise7SplitFull();
         promise8Less();
@@ -985,6 +1059,7 @@ public final class PromiseTest {
         termsBlocked();
         termsBlockedParted();
         termsBlockedFull();
+        termsRowsApart();
         termsNested();
         termsMarks();
         termsMarksWithFamilies();
