@@ -120,6 +120,8 @@ public final class LabelHall {
         return carry(row, now.lastPlace(thing) + 1, now.order.end(row), to, now.order.lastStand(to));
     }
 
+    // ---- what is asked
+
     public int less(int thing, int other) {
         int fault = faultOfPair(thing, other);
         if (fault != 0) {
@@ -207,6 +209,8 @@ public final class LabelHall {
     public int rowOf(int thing) {
         return thing >= 0 && thing < thingCount ? now.order.rowOfThing(thing) : BAD;
     }
+
+    // ---- marks
 
     public int mark(int mark, int row, int behind, int lean) {
         if (mark < 0 || mark >= MARKS || lean < 0 || lean > 1 || !isPlace(row, behind, false)) {
