@@ -1,60 +1,5 @@
 /** One method a promise (and one a part of the Terms), with answers that were worked out by hand. */
-public final class PromiseTest {
-    private static final Check CHECK = new Check("PromiseTest");
-    private static final int NONE = -1, BAD = -3, NO = -4, FULL = -5;
-    private static final int TIGHT = 0, SPREAD = 1, BLOCKED = 2, NESTED = 3;
-
-    private static void due(String call, long got, long want) {
-        CHECK.due(call, got, want);
-    }
-
-    private static LabelHall hallWith(int kind, int width) {
-        LabelHall x = new LabelHall();
-        x.row(0, kind, width);
-        return x;
-    }
-
-    /** Puts n things into row 0, each right behind the one before. */
-    private static LabelHall line(int kind, int width, int n) {
-        LabelHall x = hallWith(kind, width);
-        for (int i = 0; i < n; i++) {
-            due("line: put " + i, x.put(0, i - 1, false), i);
-        }
-        return x;
-    }
-
-    /** Row 0 is nested: 0 has 1 and 3 within it, 1 has 2; 4 stands behind 0. */
-    private static LabelHall family() {
-        LabelHall x = hallWith(NESTED, 20);
-        x.put(0, NONE, false);
-        x.put(0, 0, false);
-        x.put(0, 1, false);
-        x.put(0, 1, true);
-        x.put(0, 0, true);
-        return x;
-    }
-
-    private static void order(String what, LabelHall x, int row, int... things) {
-        due(what + ": things in row " + row, x.about(row, 2), things.length);
-        for (int i = 0; i < things.length; i++) {
-            due(what + ": at(" + row + ", " + i + ")", x.at(row, i), things[i]);
-            due(what + ": index(" + things[i] + ")", x.index(things[i]), i);
-        }
-        due(what + ": at the end", x.at(row, things.length), NONE);
-    }
-
-    private static void labels(String what, LabelHall x, int row, long... labels) {
-        for (int i = 0; i < labels.length; i++) {
-            due(what + ": label " + i, x.label(x.at(row, i), false), labels[i]);
-        }
-    }
-
-    private static void inners(String what, LabelHall x, int row, int... inners) {
-        for (int i = 0; i < inners.length; i++) {
-            due(what + ": inner " + i, x.inner(x.at(row, i), false), inners[i]);
-        }
-    }
-
+public final class PromiseTest extends HallCheck {
     private static void constants() {
         due("NONE", LabelHall.NONE, -1);
         due("BAD", LabelHall.BAD, -3);
@@ -1016,10 +961,11 @@ public final class PromiseTest {
                 x.inner(a, b > 0);
             }
         }
-        CHECK.yes("no call threw", true);
+        due("the last call is come to", x.count(6), BAD);
     }
 
     public static void main(String[] args) {
+        begin("PromiseTest");
         constants();
         promise1NewObject();
         promise2Row();
@@ -1065,6 +1011,6 @@ public final class PromiseTest {
         termsMarksWithFamilies();
         termsWrongCallsChangeNothing();
         farOffArguments();
-        CHECK.end();
+        end();
     }
 }
