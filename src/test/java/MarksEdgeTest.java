@@ -131,6 +131,27 @@ public final class MarksEdgeTest extends HallCheck {
         due("right", x.marked(1), 3);
     }
 
+    private static void goesInARowBehindAnother() {
+        says("(or at the beginning): of its own ROW");
+        LabelHall x = line(SPREAD, 10, 2);
+        x.row(1, SPREAD, 10);
+        x.row(2, SPREAD, 10);
+        due("put", x.put(1, NONE, false), 2);
+        due("put", x.put(2, NONE, false), 3);
+        due("left", x.mark(0, 1, 2, 0), 0);
+        due("right", x.mark(1, 1, 2, 1), 0);
+        due("of the row behind", x.mark(2, 2, 3, 1), 0);
+        due("the first one of row 1 goes", x.drop(2), 1);
+        due("left", x.marked(0), NONE);
+        due("right", x.marked(1), NONE);
+        due("of the row behind", x.marked(2), 3);
+        due("put at the beginning of row 1", x.putAt(0), 4);
+        due("row 1", x.rowOf(4), 1);
+        due("right", x.marked(1), 4);
+        due("behind the last of row 0", x.put(0, 1, false), 5);
+        due("left", x.marked(0), NONE);
+    }
+
     private static void goesBehindAnEnd() {
         says("it is behind what stood ahead of that: an END");
         LabelHall x = family();
@@ -268,6 +289,7 @@ public final class MarksEdgeTest extends HallCheck {
         atTheBeginning();
         endsCome();
         goesToTheBeginning();
+        goesInARowBehindAnother();
         goesBehindAnEnd();
         movedAwayAndBack();
         joined();

@@ -369,6 +369,8 @@ public final class PromiseEdgeTest extends HallCheck {
             due("ahead of the first", x.near(0, 0), NONE);
             due("behind the last", x.near(9, 1), NONE);
             due("behind the first", x.near(0, 1), 1);
+            due("ahead of the second", x.near(1, 0), 0);
+            due("behind the last but one", x.near(8, 1), 9);
             due("ahead of the last", x.near(9, 0), 8);
             LabelHall y = line(kind, 10, 1);
             for (int what = 0; what < 4; what++) {

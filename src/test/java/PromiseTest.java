@@ -926,10 +926,10 @@ public final class PromiseTest extends HallCheck {
         due("the mark is not there", x.marked(0), BAD);
     }
 
-    private static void farOffArguments() {
+    /** No call throws, whatever its arguments; what it answers past the 512th call is free. */
+    private static void farOffArguments(LabelHall x) {
         int[] odd = {Integer.MIN_VALUE, -1000, -4, -2, -1, 0, 1, 2, 7, 8, 19, 20, 299, 300, 301, 599, 600,
             1 << 30, Integer.MAX_VALUE};
-        LabelHall x = family();
         for (int a : odd) {
             x.undo();
             x.drop(a == 0 ? 900 : a + 2);
@@ -1010,7 +1010,13 @@ public final class PromiseTest extends HallCheck {
         termsMarks();
         termsMarksWithFamilies();
         termsWrongCallsChangeNothing();
-        farOffArguments();
+        farOffArguments(new LabelHall());
+        farOffArguments(family());
+        farOffArguments(mixedHall());
+        farOffArguments(line(TIGHT, 4, 16));
+        farOffArguments(line(BLOCKED, 4, 43));
+        farOffArguments(siblings(4, 21));
+        farOffArguments(line(NESTED, 40, 300));
         end();
     }
 }

@@ -4,11 +4,11 @@ import java.lang.management.ManagementFactory;
 public final class RoomTest {
     private static final Check CHECK = new Check("RoomTest");
 
-    /** Five rounds of the dearest calls: families, and a long row that goes to and fro. */
+    /** Some 500 calls: families, and five rounds of the dearest ones, a long row that goes to and fro. */
     private static void use(LabelHall x) {
         x.row(0, 3, 40);
         x.row(1, 3, 40);
-        for (int i = 0; i < 250; i++) {
+        for (int i = 0; i < 230; i++) {
             x.put(0, i - 1, false);
             x.mark(i % 20, 0, i, i & 1);
         }
@@ -18,8 +18,8 @@ public final class RoomTest {
             x.move(100, -1, false);
             x.undo();
             x.putAt(i);
-            x.depth(249);
-            x.meet(100, 249);
+            x.depth(229);
+            x.meet(100, 229);
         }
     }
 

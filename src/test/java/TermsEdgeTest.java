@@ -408,6 +408,13 @@ public final class TermsEdgeTest extends HallCheck {
         inners("8 to 256", z, 0, 16, 48, 80, 112, 144, 176, 208, 240);
         due("still one block", z.about(0, 3), 1);
         due("only this block's", z.label(0, false), 7);
+        LabelHall second = line(BLOCKED, 8, 13);
+        inners("a block of 5 and one of 8", second, 0, 25, 76, 128, 179, 230, 32, 96, 160, 224, 240, 248, 252, 254);
+        due("3 of it go", second.drop(5) + second.drop(6) + second.drop(7), 3);
+        due("a place", second.put(0, 12, false), 13);
+        due("behind 255", second.put(0, 13, false), 14);
+        inners("7 to 256", second, 0, 25, 76, 128, 179, 230, 18, 54, 91, 128, 164, 201, 237);
+        due("17 as it was parted, and 6", second.count(2), 23);
     }
 
     private static void blocksOfOneToEight() {
@@ -471,6 +478,24 @@ public final class TermsEdgeTest extends HallCheck {
         due("1 block and 9 inner ones", x.count(2), renamed + 10);
     }
 
+    private static void blocksBehindCount() {
+        says("BLOCKED: BLOCKS have LABELS as SPREAD THINGS have: c is how many BLOCKS have labels in the span, and 1");
+        LabelHall x = line(BLOCKED, 4, 9);
+        for (int i = 9; i < 25; i++) {
+            due("behind 0", x.put(0, 0, false), i);
+        }
+        // Each fourth one parts the first block: 9, 8, then 5 and 7 (dealt to 4 .. 7), then 6.
+        labels("the first block", x, 0, 5, 5, 5, 5, 5, 6, 6, 6, 6, 7, 7, 7, 7, 8, 8, 8, 8, 9, 9, 9, 9, 11);
+        int renamed = x.count(2);
+        for (int i = 25; i < 29; i++) {
+            due("behind 0", x.put(0, 0, false), i);
+        }
+        // [4, 6) would have 2, 16 > 14; [4, 8) 4, 32 > 24; [0, 8) has 4, 32 is not above 40.
+        labels("4 to 0 .. 7", x, 0, 1, 1, 1, 1, 1, 3, 3, 3, 3, 5, 5, 5, 5, 7, 7, 7, 7, 8, 8, 8, 8, 9, 9, 9, 9, 11);
+        due("3 blocks and 9 inner ones", x.count(2), renamed + 12);
+        due("blocks", x.about(0, 3), 7);
+    }
+
     private static void blockedFull() {
         says("BLOCKED: If that new BLOCK would be FULL, all is FULL.");
         LabelHall x = line(BLOCKED, 4, 43);
@@ -512,6 +537,88 @@ public final class TermsEdgeTest extends HallCheck {
         due("at the beginning", y.put(0, NONE, false), 9);
         due("to the block behind it", y.label(9, false), 191);
         due("between -1 and 32", y.inner(9, false), 15);
+    }
+
+    private static void blockOfOne() {
+        says("BLOCKED: BLOCKS of 1 to 8; (behind it, if there is none ahead)");
+        LabelHall x = line(BLOCKED, 8, 9);
+        for (int i = 1; i < 5; i++) {
+            due("drop", x.drop(i), 1);
+        }
+        due("0 alone in its block", x.about(0, 3), 2);
+        due("at the beginning", x.put(0, NONE, false), 9);
+        due("to the block of 0", x.label(9, false), 127);
+        due("between -1 and 25", x.inner(9, false), 12);
+        due("they go", x.drop(0) + x.drop(9) + x.drop(6) + x.drop(7) + x.drop(8), 5);
+        due("5 alone in the row", x.about(0, 3), 1);
+        due("behind it", x.put(0, 5, false), 10);
+        due("to its block", x.label(10, false), 191);
+        due("between 32 and 256", x.inner(10, false), 144);
+    }
+
+    /** Puts, moves and drops in row 1 alone, at its ends and in the midst, by the places of things. */
+    private static void workInRow1(LabelHall x, boolean nested) {
+        x.mark(0, 1, NONE, 0);
+        x.mark(1, 1, NONE, 1);
+        for (int i = 0; i < 14; i++) {
+            x.put(1, NONE, false);
+            x.put(1, x.at(1, x.about(1, 2) - 1), nested);
+            x.put(1, x.at(1, 2), false);
+        }
+        x.mark(2, 1, x.at(1, 0), 0);
+        x.mark(3, 1, x.at(1, 0), 1);
+        x.drop(x.at(1, 0));
+        x.mark(4, 1, x.at(1, x.about(1, 2) - 1), 1);
+        x.drop(x.at(1, x.about(1, 2) - 1));
+        x.move(x.at(1, 1), NONE, false);
+        x.move(x.at(1, 0), x.at(1, x.about(1, 2) - 1), nested);
+    }
+
+    private static long shown(LabelHall x, int mark) {
+        int behind = x.marked(mark);
+        return behind < 1000 ? x.index(behind) : 1000 + x.index(behind - 1000);
+    }
+
+    /** Row 1 with things in the rows 0 and 2, as many and as labelled as its own first ones, and without. */
+    private static void besideOthers(int kind, int width, int others) {
+        LabelHall alone = new LabelHall();
+        LabelHall among = new LabelHall();
+        for (int r = 0; r < 3; r++) {
+            alone.row(r, kind, width);
+            among.row(r, kind, width);
+        }
+        for (int i = 0; i < others; i++) {
+            among.put(i % 2 * 2, NONE, false);
+        }
+        int renamed = among.count(2);
+        workInRow1(alone, kind == NESTED);
+        workInRow1(among, kind == NESTED);
+        String what = "kind " + kind + ", width " + width + ", beside " + others;
+        due(what + ": renamed", among.count(2) - renamed, alone.count(2));
+        for (int about = 0; about < 5; about++) {
+            due(what + ": about " + about, among.about(1, about), alone.about(1, about));
+        }
+        for (int m = 0; m < 5; m++) {
+            due(what + ": mark " + m, shown(among, m), shown(alone, m));
+        }
+        int things = alone.about(1, 2);
+        for (int i = 0; i < things; i++) {
+            int a = alone.at(1, i);
+            int b = among.at(1, i);
+            due(what + ": label of " + i, among.label(b, false), alone.label(a, false));
+            due(what + ": inner of " + i, among.inner(b, false), alone.inner(a, false));
+            due(what + ": END of " + i, among.inner(b, true), alone.inner(a, true));
+        }
+    }
+
+    private static void rowsSideBySide() {
+        says("A NEW THING comes between two that stand side by side (or at an end): in its own ROW alone");
+        for (int kind = TIGHT; kind <= NESTED; kind++) {
+            for (int width = 4; width <= 9; width++) {
+                besideOthers(kind, width, 2);
+                besideOthers(kind, width, 60);
+            }
+        }
     }
 
     private static void nestedStands() {
@@ -632,8 +739,11 @@ public final class TermsEdgeTest extends HallCheck {
         blocksOfOneToEight();
         partedWithAPlace();
         newBlockRightBehind();
+        blocksBehindCount();
         blockedFull();
         blockWithoutThings();
+        blockOfOne();
+        rowsSideBySide();
         nestedStands();
         nestedEnds();
         nestedFull();
