@@ -1,11 +1,27 @@
 /** Counts the answers that are not as due, and tells each of them. */
 public final class Check {
+    private static final long MOST_MILLISECONDS = 600_000;
+
     private final String name;
     private int checks = 0;
     private int wrong = 0;
 
     public Check(String name) {
         this.name = name;
+        Thread watch = new Thread(() -> endIfLate(name));
+        watch.setDaemon(true);
+        watch.start();
+    }
+
+    /** A call that never ends must fail the test, not hold it up for ever. */
+    private static void endIfLate(String name) {
+        try {
+            Thread.sleep(MOST_MILLISECONDS);
+        } catch (InterruptedException e) {
+            return;
+        }
+        System.out.println(name + ": a call did not end");
+        Runtime.getRuntime().halt(1);
     }
 
     public void due(String call, long got, long want) {

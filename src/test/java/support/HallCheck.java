@@ -14,7 +14,7 @@ class HallCheck {
     static final int[] NO_THINGS = {LEAST, -2, 9, 10, 11, 12, 299, 300, GREATEST};
     static final int[] NO_MARKS = {LEAST, -1, 4, 5, 20, GREATEST};
 
-    private static Check check = new Check("HallCheck");
+    private static Check check;
     private static String sentence = "";
 
     static void begin(String name) {
