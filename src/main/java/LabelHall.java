@@ -705,16 +705,9 @@ public final class LabelHall {
             return behind != NONE && encloses(thing, behind) ? behind : NONE;
         }
 
-        /** The next thing, step 1 or -1: ENDs are passed over. */
-        int neighbour(int thing, int step) {
-            int row = order.rowOfThing(thing);
-            for (int p = firstPlace(thing) + step; p >= order.first(row) && p < order.end(row); p += step) {
-                int stand = order.standAt(p);
-                if (!isEnd(stand)) {
-                    return thingOf(stand);
-                }
-            }
-            return NONE;
+        /** The thing so many steps further on in the row without ENDs, or back, if it is below 0. */
+        int neighbour(int thing, int steps) {
+            return thingNumber(order.rowOfThing(thing), thingsAhead(thing) + steps);
         }
 
         int thingsAhead(int thing) {

@@ -6,7 +6,9 @@ import java.lang.reflect.Modifier;
 import java.nio.file.Files;
 import java.nio.file.Path;
 import java.util.Arrays;
+import java.util.Map;
 import java.util.Set;
+import java.util.TreeMap;
 import java.util.TreeSet;
 import java.util.regex.Matcher;
 import java.util.regex.Pattern;
@@ -118,6 +120,39 @@ public final class LanguageTest {
         }
     }
 
+    /** Rule 9: a for counts up or down by one, a while changes what its condition begins with. */
+    private static void checkLoops(String code) {
+        String counted = "for \\(int (\\w+) = [^;]+; [^;]*\\b\\1\\b[^;]*; \\1(\\+\\+|--)\\) \\{";
+        String[] lines = code.split("\n");
+        int loops = 0;
+        for (int i = 0; i < lines.length; i++) {
+            String line = lines[i].trim();
+            if (line.startsWith("for ")) {
+                loops++;
+                CHECK.yes("an end can be seen of " + line, line.matches(counted));
+            }
+            if (line.startsWith("while ")) {
+                loops++;
+                CHECK.yes("an end can be seen of " + line, changesItsCounter(lines, i));
+            }
+            CHECK.yes("no do in " + line, !line.startsWith("do "));
+        }
+        CHECK.yes("the loops were found", loops > 10);
+    }
+
+    private static boolean changesItsCounter(String[] lines, int head) {
+        Matcher counter = Pattern.compile("while \\((\\w+) [<>]=? ").matcher(lines[head].trim());
+        if (!counter.lookingAt()) {
+            return false;
+        }
+        String body = "";
+        int indent = lines[head].indexOf("while");
+        for (int i = head + 1; i < lines.length && lines[i].indexOf('}') != indent; i++) {
+            body += lines[i].trim() + "\n";
+        }
+        return Pattern.compile("(?m)^" + counter.group(1) + "(\\+\\+|--);$").matcher(body).find();
+    }
+
     private static void checkLengths(String code) {
         int start = 0;
         int depth = 0;
@@ -134,12 +169,79 @@ public final class LanguageTest {
         }
     }
 
+    /** Rules 8 and 11: no method calls itself on any way, and no way is longer than eight calls. */
+    private static void checkDepth(String code) {
+        Map<String, String> bodies = methodBodies(code);
+        CHECK.yes("the methods were found", bodies.keySet().containsAll(Set.of(
+            "LabelHall.put", "LabelHall.carry", "Order.insert", "Marks.follow", "State.bring", "State.takeOut")));
+        for (String method : bodies.keySet()) {
+            int deep = depthOf(method, bodies, 1);
+            CHECK.yes(method + " is " + deep + " calls deep", deep <= 8);
+        }
+    }
+
+    /** What stands in each method, by its class and name; every method of the file begins a line. */
+    private static Map<String, String> methodBodies(String code) {
+        Pattern head = Pattern.compile(
+            "( {4}| {8})(?:(?:public|private|static|final) )*(?:[\\w\\[\\]]+ )?(\\w+)\\(.*\\{");
+        Map<String, String> bodies = new TreeMap<>();
+        String type = "LabelHall";
+        String method = null;
+        String closing = "";
+        for (String line : code.split("\n")) {
+            Matcher typeHead = Pattern.compile(".*\\bclass (\\w+) \\{").matcher(line);
+            Matcher begins = head.matcher(line);
+            if (typeHead.matches()) {
+                type = typeHead.group(1);
+            } else if (method == null && begins.matches()) {
+                method = type + "." + begins.group(2);
+                closing = begins.group(1) + "}";
+                CHECK.yes(method + " is there once", bodies.put(method, "") == null);
+            } else if (line.equals(closing)) {
+                method = null;
+            } else if (method != null) {
+                bodies.put(method, bodies.get(method) + line + "\n");
+            }
+        }
+        return bodies;
+    }
+
+    private static int depthOf(String method, Map<String, String> bodies, int open) {
+        if (open > 20) {
+            return open;
+        }
+        int deepest = open;
+        Matcher calls = Pattern.compile("(?:([\\w\\])]+)\\.)?\\b(\\w+)\\(").matcher(bodies.get(method));
+        while (calls.find()) {
+            String called = resolve(method, calls.group(1), calls.group(2), bodies);
+            if (called != null) {
+                deepest = Math.max(deepest, depthOf(called, bodies, open + 1));
+            }
+        }
+        return deepest;
+    }
+
+    /** The method that a call means: of the receiver's class, or the own class, or the one around it. */
+    private static String resolve(String from, String receiver, String name, Map<String, String> bodies) {
+        String own = from.substring(0, from.indexOf('.') + 1) + name;
+        if (receiver == null) {
+            return bodies.containsKey(own) ? own : bodies.containsKey("LabelHall." + name) ? "LabelHall." + name : null;
+        }
+        String type = receiver.equals("order") ? "Order" : receiver.equals("marks") ? "Marks" : "State";
+        String called = type + "." + name;
+        CHECK.yes("the call of " + receiver + "." + name + " in " + from + " is understood",
+            bodies.containsKey(called) || Set.of("System", "Arrays", "Math").contains(receiver));
+        return bodies.containsKey(called) ? called : null;
+    }
+
     public static void main(String[] args) throws IOException {
         String code = withoutComments(Files.readString(Path.of("src/main/java/LabelHall.java")));
         checkFace();
         checkClassesInside();
         checkWords(code);
+        checkLoops(code);
         checkLengths(code);
+        checkDepth(code);
         CHECK.end();
     }
 }
